@@ -11,6 +11,7 @@ public final class PromisesTest {
         newObject();
         tapeOfBytes();
         texts();
+        twoOfASort();
         faults();
         town();
         deeds();
@@ -136,6 +137,28 @@ public final class PromisesTest {
         Due.is("soup is the first one again", x.town(1, 2), 60);
     }
 
+    // what is asked of one in turn with another is what it would be alone
+    private static void twoOfASort() {
+        SoupNine x = told(0, TOWN);
+        Due.tell(x, 0, -1, "last 1 1 0 3;");
+        Due.tell(x, 3, -1, LIST);
+        Due.tell(x, 3, -1, "foot 4 7;shoe 5;hide 0 2 1;");
+        for (int i = 0; i < 2; i++) {
+            Due.is("way", x.way(0, -1), 11);
+            Due.is("way", x.way(1, -1), 1);
+            Due.is("round", x.round(0, -1), 28);
+            Due.is("round", x.round(1, -1), 8);
+            Due.is("mean", x.mean(0, 0, 28, true), 1);
+            Due.is("mean", x.mean(1, 0, 0, false), 3);
+            Due.is("mean", x.mean(0, 4, 0, false), 0);
+            Due.is("mean", x.mean(1, 1, 0, false), 0);
+            Due.is("shod", x.shod(0, -1), 11);
+            Due.is("shod", x.shod(1, -1), 7);
+            Due.is("look", x.look(0, -1), 17);
+            Due.is("look", x.look(1, -1), 2);
+        }
+    }
+
     private static void fault(int sort, String text, int fault, int place) {
         SoupNine x = new SoupNine();
         Due.is("text of " + text, Due.tell(x, sort, -1, text), fault == 0 ? 0 : -1);
@@ -181,6 +204,12 @@ public final class PromisesTest {
         fault(0, "last 0 0 0 0;".repeat(10) + "x", 1, 130);
         fault(0, "drive 1;", 1, 0);
         fault(0, "evens 0 0 0 0;", 1, 0);
+        fault(0, "oven 0 0 0 0;", 1, 0);
+        fault(0, "evem 0 0 0 0;", 1, 0);
+        fault(0, "eve 0 0 0 0;", 1, 0);
+        fault(0, "hold 9;", 1, 0);
+        fault(1, "walk;", 1, 0);
+        fault(2, "night 1 1;asked rocks 1;", 1, 16);
         fault(0, "even 0 0 0 0", 1, 12);
         fault(0, "even 0 0 0  ", 1, 12);
         fault(0, "even 0 0 0;", 1, 10);

@@ -17,16 +17,20 @@ public final class TownsTest {
     }
 
     public static void main(String[] args) {
+        SoupNine x = null;
         for (int seed = 0; seed < 700; seed++) {
-            new TownsTest(seed).all(seed);
+            if (seed % 7 == 0) {
+                x = new SoupNine();
+            }
+            new TownsTest(seed).all(x, seed);
         }
         Due.finish("TownsTest");
     }
 
-    private void all(int seed) {
+    // one object has several towns in one place, so that nothing of an earlier one may be left
+    private void all(SoupNine x, int seed) {
         String text = make(random.nextInt(seed % 50 == 0 ? 10 : 7));
-        SoupNine x = new SoupNine();
-        Due.is("text", Due.tell(x, 0, -1, text), 0);
+        Due.is("text", Due.tell(x, 0, x.count(0) == 0 ? -1 : 0, text), 0);
         wayAndSo(x, text);
         roundAndVans(x, text);
         bowls(x, text);
@@ -215,8 +219,6 @@ public final class TownsTest {
     }
 
     // ---- GIVE, MEAN, SAFE, TELLS, LACK
-
-    private BigInteger[][] ofAll;
 
     // N and D of what counts from a STOP on
     private BigInteger[] mean(int stop, int s) {

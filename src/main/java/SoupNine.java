@@ -58,18 +58,15 @@ public final class SoupNine {
     }
 
     public int text(int sort, int at) {
+        int taken = now.length;
+        now.length = 0;
         now.fault = 0;
         now.place = NONE;
-        if (sort < 0 || sort >= SORTS) {
+        int where = placeFor(sort, at);
+        if (where == NOT_THERE) {
             return NOT_THERE;
         }
-        int have = now.counts[sort];
-        int where = at == NONE ? have : at;
-        if (where < 0 || where >= PLACES_OF_A_SORT || (at != NONE && at >= have)) {
-            return NOT_THERE;
-        }
-        reader.readText(sort, now.length);
-        now.length = 0;
+        reader.readText(sort, taken);
         now.fault = reader.fault;
         now.place = reader.place;
         if (reader.fault != 0) {
@@ -77,6 +74,17 @@ public final class SoupNine {
         }
         keepDraft(sort, where);
         return where;
+    }
+
+    private int placeFor(int sort, int at) {
+        if (sort < 0 || sort >= SORTS) {
+            return NOT_THERE;
+        }
+        int have = now.counts[sort];
+        if (at == NONE) {
+            return have < PLACES_OF_A_SORT ? have : NOT_THERE;
+        }
+        return at >= 0 && at < have ? at : NOT_THERE;
     }
 
     private void keepDraft(int sort, int where) {

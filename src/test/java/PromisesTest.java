@@ -103,26 +103,32 @@ public final class PromisesTest {
         Due.is("deeds", x.deed(0, -1, 0), 4);
     }
 
+    // a text that would have a FAULT, were it read
+    private static void takenUnread(SoupNine x, String why, int sort, int at) {
+        Due.tape(x, "talk;talk 1;");
+        Due.is(why, x.text(sort, at), -2);
+        Due.is("fault, " + why, x.fault(0), 0);
+        Due.is("place, " + why, x.fault(1), -1);
+        Due.is("the tape is empty, " + why, x.feed(0, 0, 0, 0, 0), 20);
+    }
+
     private static void texts() {
         SoupNine x = new SoupNine();
-        Due.tape(x, "talk;");
-        Due.is("no such sort", x.text(4, -1), -2);
-        Due.is("no such sort", x.text(-1, -1), -2);
-        Due.is("none in its place", x.text(1, 0), -2);
-        Due.is("at below NONE", x.text(1, -2), -2);
-        Due.is("the tape is still there", x.end(5), 5);
-        Due.is("text", x.text(1, -1), 0);
+        takenUnread(x, "no such sort", 4, -1);
+        takenUnread(x, "no such sort", -1, -1);
+        takenUnread(x, "none in its place", 1, 0);
+        takenUnread(x, "at below NONE", 1, -2);
+        Due.is("count", x.count(1), 0);
+        Due.is("text", Due.tell(x, 1, -1, "talk;"), 0);
         Due.is("the tape is empty", x.end(1), -1);
         Due.is("a further one", Due.tell(x, 1, -1, "return;wait 60;"), 1);
-        Due.is("as many as may be", x.text(1, -1), -2);
+        takenUnread(x, "as many as may be", 1, -1);
         Due.is("count", x.count(1), 2);
         Due.is("a FAULT", Due.tell(x, 1, 0, "talk 1;"), -1);
         Due.is("the tape is empty", x.end(1), -1);
         Due.is("its place is as it was", x.deed(0, 0, 0), 3);
         Due.is("fault", x.fault(0), 1);
-        Due.is("no text is read", x.text(1, 2), -2);
-        Due.is("fault", x.fault(0), 0);
-        Due.is("place", x.fault(1), -1);
+        takenUnread(x, "behind all of them", 1, 2);
         Due.is("in the place of one", Due.tell(x, 1, 0, "ladle 40;"), 0);
         Due.is("deed", x.deed(0, 0, 0), 1);
         Due.is("deed", x.deed(0, 0, 1), 40);

@@ -2,8 +2,14 @@
 final class Due {
     private static int wrong = 0;
     private static int asked = 0;
+    private static String test = "";
 
     private Due() {
+    }
+
+    /** What is said ahead of each answer that is not as due. */
+    static void begin(String name) {
+        test = name;
     }
 
     static void is(String call, long got, long want) {
@@ -11,7 +17,7 @@ final class Due {
         if (got != want) {
             wrong++;
             if (wrong <= 50) {
-                System.out.println(call + " answered " + got + ", due is " + want);
+                System.out.println(test + call + " answered " + got + ", due is " + want);
             }
         }
     }
@@ -39,8 +45,15 @@ final class Due {
         return x.text(sort, at);
     }
 
-    static void finish(String test) {
-        System.out.println(test + ": " + asked + " answers, " + wrong + " not as due");
+    /** A new object to which one text, without FAULT, was told. */
+    static SoupNine told(int sort, String text) {
+        SoupNine x = new SoupNine();
+        is("text(" + sort + ", -1) of " + text, tell(x, sort, -1, text), 0);
+        return x;
+    }
+
+    static void finish(String name) {
+        System.out.println(name + ": " + asked + " answers, " + wrong + " not as due");
         if (wrong != 0) {
             System.exit(1);
         }

@@ -12,6 +12,13 @@ public final class AnyCallsTest {
         "even 0 0 0 20;".repeat(9), "follow 0 1 1;follow 1 0 9;even 1 1 9 9;last 2 2 9 9;cold 99;", "", "talk;",
         "drive 0;ladle 9;drive 1;ladle 9;drive 0;ladle 1;", "night 99 0;night 99 99;".repeat(5),
         "shoe 5;foot 5 9;hide 9 9 20;hide 1 1 1;".repeat(6), "\u0000\u00ff;", "even 1 1"};
+    // without FAULTS
+    private static final String[][] OF_SORTS = {
+        {PromisesTest.TOWN, "even 0 0 0 20;".repeat(9), "follow 0 1 1;follow 1 0 9;even 1 1 9 9;last 2 2 9 9;cold 99;", "",
+            "home 5 5;crowded 3 3 0 9;empty 7 3 2 9;last 5 9 1 8;soup 20;talk 3;pace 1;"},
+        {PromisesTest.EVENING, "drive 0;ladle 9;drive 1;ladle 9;drive 0;ladle 1;", "", "talk;", "wait 60;return;drive 2;talk;"},
+        {PromisesTest.BOOK, "night 99 0;night 99 99;".repeat(5), "", "night 5 0;asked bags 7;night 9 3;asked socks 3;"},
+        {PromisesTest.LIST, "shoe 5;foot 5 9;hide 9 9 20;hide 1 1 1;".repeat(4), "", "foot 4 7;shoe 5;hide 0 2 1;foot 5 8;"}};
 
     public static void main(String[] args) throws Exception {
         List<Method> calls = new ArrayList<>();
@@ -27,6 +34,9 @@ public final class AnyCallsTest {
             List<Long> twice = run(calls, seed);
             Due.is("the same calls answer the same", once.equals(twice), true);
             imagesHaveAll(calls, seed);
+        }
+        for (int seed = 0; seed < 200; seed++) {
+            secondOnesAnswerAlike(calls, seed);
         }
         Due.finish("AnyCallsTest");
     }
@@ -46,7 +56,7 @@ public final class AnyCallsTest {
         return answers;
     }
 
-    private static long ask(SoupNine x, Method call, Random random) throws Exception {
+    private static Object[] arguments(Method call, Random random) {
         Object[] arguments = new Object[call.getParameterCount()];
         for (int i = 0; i < arguments.length; i++) {
             if (call.getParameterTypes()[i] == boolean.class) {
@@ -57,8 +67,54 @@ public final class AnyCallsTest {
                         : by < 9 ? EDGES[random.nextInt(EDGES.length)] : random.nextInt();
             }
         }
+        return arguments;
+    }
+
+    private static long ask(SoupNine x, Method call, Random random) throws Exception {
+        return ask(x, call, arguments(call, random));
+    }
+
+    private static long ask(SoupNine x, Method call, Object[] arguments) throws Exception {
         Object answer = call.invoke(x, arguments);
         return answer instanceof Boolean ? ((Boolean) answer ? 1 : 0) : ((Number) answer).longValue();
+    }
+
+    // how many of a call's first arguments are places of what was told
+    private static int places(String name) {
+        if (List.of("till", "state", "lot", "like").contains(name)) {
+            return 2;
+        }
+        boolean of = List.of("town", "deed", "give", "mean", "safe", "way", "round", "talks", "lost", "book", "held", "bring", "span",
+                "list", "shod", "look", "drawn", "tells", "depot", "vans", "trail", "chat", "lack").contains(name);
+        return of ? 1 : 0;
+    }
+
+    // what stands in the second place answers as it would in the first, and so does the one ahead of it
+    private static void secondOnesAnswerAlike(List<Method> calls, int seed) throws Exception {
+        Random random = new Random(seed);
+        SoupNine[] alone = {new SoupNine(), new SoupNine()};
+        SoupNine both = new SoupNine();
+        for (int sort = 0; sort < 4; sort++) {
+            for (int k = 0; k < 2; k++) {
+                String text = OF_SORTS[sort][(seed + k) % OF_SORTS[sort].length];
+                Due.is("text of " + text, Due.tell(alone[k], sort, -1, text), 0);
+                Due.is("text of " + text, Due.tell(both, sort, -1, text), k);
+            }
+        }
+        for (int i = 0; i < 200; i++) {
+            Method call = calls.get(random.nextInt(calls.size()));
+            int many = places(call.getName());
+            if (many > 0) {
+                int k = random.nextInt(2);
+                Object[] arguments = arguments(call, random);
+                Object[] other = arguments.clone();
+                for (int j = 0; j < many; j++) {
+                    arguments[j] = 0;
+                    other[j] = k;
+                }
+                Due.is(call.getName() + " in place " + k, ask(both, call, other), ask(alone[k], call, arguments));
+            }
+        }
     }
 
     private static List<Long> view(SoupNine x, List<Method> calls) throws Exception {

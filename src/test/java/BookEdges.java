@@ -25,8 +25,10 @@ final class BookEdges {
 
     // ---- promise 17
 
-    @Edge(promise = 17, says = {"Of a BOOK, how many NIGHTS (k NONE, what 0); of NIGHT k, what 0: SEEN, 1: AGAIN, 2, 3, 4: ASKED of a THING.",
-        "A BOOK has NIGHTS, at most 10, from 0 on:", "ASKED of three THINGS, 0 .. 99 each (0 at first): 0 SOCKS, 1 GLOVES, 2 BAGS."})
+    @Edge(promise = 17, says = {"Of a BOOK, how many NIGHTS (k NONE, what 0); of NIGHT k, what 0: SEEN, 1: AGAIN, 2, 3, 4: ASKED"
+            + " of a THING.",
+        "A BOOK has NIGHTS, at most 10, from 0 on:", "ASKED of three THINGS, 0 .. 99 each (0 at first): 0 SOCKS, 1 GLOVES, 2"
+            + " BAGS."})
     static void bookAtFirstAtLeastAtMost() {
         SoupNine x = Due.told(2, "");
         Due.is("NIGHTS", x.book(0, -1, 0), 0);
@@ -74,7 +76,8 @@ final class BookEdges {
 
     // ---- promise 18
 
-    @Edge(promise = 18, says = {"What 0: ALL", "By a BOOK: ALL: how many unlike ones were seen at least (SEEN less AGAIN of all NIGHTS);"})
+    @Edge(promise = 18, says = {"What 0: ALL", "By a BOOK: ALL: how many unlike ones were seen at least (SEEN less AGAIN of all"
+            + " NIGHTS);"})
     static void allAtLeastAtMost() {
         held("", 0);
         held("night 0 0;", 0);
@@ -84,7 +87,8 @@ final class BookEdges {
     }
 
     @Edge(promise = 18, says = {"1, 2: HELD, N, D",
-        "HELD: how many there are, by sums over NIGHTS, from the second one on: SEEN times all unlike ones seen ahead of it, by all AGAIN, a fraction in least terms"})
+        "HELD: how many there are, by sums over NIGHTS, from the second one on: SEEN times all unlike ones seen ahead of it, by"
+            + " all AGAIN, a fraction in least terms"})
     static void heldBySums() {
         // 12 times 10 and 20 times 18, by 4 and 10
         held("night 10 0;night 12 4;night 20 10;", 28, 240, 7);
@@ -107,7 +111,8 @@ final class BookEdges {
     }
 
     @Edge(promise = 18, says = {"3: DOORWAY, 4, 5: its difference, N, D",
-        "DOORWAY: the NIGHT, from 1 on, such that the difference of the means of SEEN, from it on and ahead of it, is greatest (from it on more)",
+        "DOORWAY: the NIGHT, from 1 on, such that the difference of the means of SEEN, from it on and ahead of it, is greatest"
+            + " (from it on more)",
         "that difference, a fraction in least terms."})
     static void doorwayAtLeastAtMost() {
         doorway("night 0 0;night 1 0;", 1, 1, 1);
@@ -197,7 +202,8 @@ final class BookEdges {
 
     // ---- promise 20
 
-    @Edge(promise = 20, says = {"SPAN of a THING: the least, or (greatest) the greatest.", "SPAN of a THING: the least, the greatest ASKED."})
+    @Edge(promise = 20, says = {"SPAN of a THING: the least, or (greatest) the greatest.", "SPAN of a THING: the least, the"
+            + " greatest ASKED."})
     static void spanAtLeastAtMost() {
         SoupNine x = Due.told(2, "night 1 0;asked socks 99;asked gloves 4;asked bags 3;night 1 0;asked socks 98;asked gloves 99;");
         int[][] due = {{98, 99}, {4, 99}, {0, 3}};
@@ -208,6 +214,9 @@ final class BookEdges {
         Due.tell(x, 2, 0, "night 0 0;");
         Due.is("span of one NIGHT", x.span(0, 0, false), 0);
         Due.is("span of one NIGHT", x.span(0, 0, true), 0);
+        Due.tell(x, 2, 0, "night 0 0;asked bags 50;".repeat(8) + "night 0 0;asked bags 49;night 0 0;asked bags 51;");
+        Due.is("span of ten NIGHTS", x.span(0, 2, false), 49);
+        Due.is("span of ten NIGHTS", x.span(0, 2, true), 51);
     }
 
     @Edge(promise = 20, says = "NONE: no NIGHTS")
@@ -245,7 +254,8 @@ final class BookEdges {
 
     @Edge(promise = 35, says = {"LOT, N, or (under) D.",
         "LOT of two BOOKS: all NIGHTS of both being in one row, as many as the first BOOK has being picked, all ways alike",
-        ": how likely those that are picked have as many SEEN together as the first BOOK has, or more, a fraction in least terms."})
+        ": how likely those that are picked have as many SEEN together as the first BOOK has, or more, a fraction in least"
+            + " terms."})
     static void lotAtLeastAtMost() {
         lot("", "", 1, 1);
         lot("", "night 9 0;", 1, 1);
@@ -288,7 +298,8 @@ final class BookEdges {
 
     // ---- promise 36
 
-    @Edge(promise = 36, says = {"LIKE.", "LIKE of a THING, two BOOKS: how many couples of NIGHTS, one of each, have as many ASKED."})
+    @Edge(promise = 36, says = {"LIKE.", "LIKE of a THING, two BOOKS: how many couples of NIGHTS, one of each, have as many"
+            + " ASKED."})
     static void likeAtLeastAtMost() {
         SoupNine x = Due.told(2, "");
         Due.tell(x, 2, -1, "night 1 0;asked socks 1;night 1 0;asked socks 2;asked bags 99;");

@@ -53,7 +53,8 @@ final class BowlEdges {
 
     // ---- promise 10
 
-    @Edge(promise = 10, says = {"GIVE.", "GIVE of a STOP k, soup s, 0 .. 99, d who came: how many to give there, of several the most, so that what counts from there on is least in the mean;",
+    @Edge(promise = 10, says = {"GIVE.", "GIVE of a STOP k, soup s, 0 .. 99, d who came: how many to give there, of several the"
+            + " most, so that what counts from there on is least in the mean;",
         "so many of them are given a bowl as one likes, as long as there is soup;"})
     static void giveNoMoreThanThereIsOrCome() {
         SoupNine x = Due.told(0, "even 0 0 0 20;");
@@ -82,7 +83,8 @@ final class BowlEdges {
         give(x, 0, 2, 3, 2);
     }
 
-    @Edge(promise = 10, says = {"who gets none counts 1 (at a LAST stop 2).", "STOPS by numbers: at each, of LEAST to MOST people all as likely come, by itself;"})
+    @Edge(promise = 10, says = {"who gets none counts 1 (at a LAST stop 2).", "STOPS by numbers: at each, of LEAST to MOST"
+            + " people all as likely come, by itself;"})
     static void keepBackForALastStop() {
         SoupNine x = Due.told(0, "even 0 0 3 3;last 0 0 3 3;");
         int[] due = {0, 0, 0, 0, 1, 2, 3, 3};
@@ -203,11 +205,9 @@ final class BowlEdges {
 
     @Edge(promise = 4, says = "in the place of one")
     static void meanOfATownInThePlaceOfOne() {
-        SoupNine x = Due.told(0, "last 0 0 20 20;".repeat(9));
-        for (int stops = 8; stops >= 0; stops--) {
+        for (int stops = 0; stops < 9; stops++) {
+            SoupNine x = Due.told(0, "last 0 0 20 20;".repeat(9));
             mean(x, stops, 99, Math.max(0, 2 * (20 * (9 - stops) - 99)), 1);
-        }
-        for (int stops = 8; stops >= 0; stops--) {
             Due.tell(x, 0, 0, "even 0 0 1 1;".repeat(stops));
             mean(x, stops, 0, 0, 1);
             mean(x, stops, 99, 0, 1);
@@ -271,7 +271,8 @@ final class BowlEdges {
     // ---- promise 29
 
     @Edge(promise = 29, says = {"TELLS, N, or (under) D.",
-        "TELLS of soup s, d who came to the first STOP (number 0): the mean of what counts in all then, by GIVE, a fraction in least terms."})
+        "TELLS of soup s, d who came to the first STOP (number 0): the mean of what counts in all then, by GIVE, a fraction in"
+            + " least terms."})
     static void tellsOfTwoStops() {
         SoupNine x = Due.told(0, TWO);
         tells(x, 0, 0, 3, 1);
@@ -289,6 +290,23 @@ final class BowlEdges {
         tells(x, 0, 20, 40, 1);
         tells(x, 99, 20, 0, 1);
         tells(x, 19, 20, 2, 1);
+    }
+
+    @Edge(promise = 29, says = "the mean of what counts in all then, by GIVE, a fraction in least terms.")
+    static void tellsOfNineStops() {
+        SoupNine x = Due.told(0, "even 0 0 0 20;".repeat(9));
+        long[] ways = waysOfSums(8);
+        for (int s : new int[] {0, 20, 98, 99}) {
+            for (int d : new int[] {0, 1, 20}) {
+                long n = 0;
+                for (int sum = 0; sum < ways.length; sum++) {
+                    n += Math.max(0, sum + d - s) * ways[sum];
+                }
+                // 21 to the 8th ways
+                long[] due = lowest(n, 37822859361L);
+                tells(x, s, d, due[0], due[1]);
+            }
+        }
     }
 
     @Edge(promise = 29, says = "NONE: not so many come there")

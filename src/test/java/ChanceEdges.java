@@ -44,7 +44,9 @@ final class ChanceEdges {
     // ---- promise 24
 
     @Edge(promise = 24, says = {"WORRY, N, or (under) D.",
-        "WORRY: he comes by a of ten each night, 0 .. 10, if he is well; q of a hundred, 0 .. 100, is how likely he is not, ahead of all; then he never comes: k nights, 0 .. 9, he did not come: how likely he is not well, a fraction in least terms"})
+        "WORRY: he comes by a of ten each night, 0 .. 10, if he is well; q of a hundred, 0 .. 100, is how likely he is not,"
+            + " ahead of all; then he never comes: k nights, 0 .. 9, he did not come: how likely he is not well, a fraction in"
+            + " least terms"})
     static void worryAtLeastAtMost() {
         // 20 of a hundred, by these and 80 of a hundred times one half
         worry(5, 20, 1, 1, 3);
@@ -102,7 +104,7 @@ final class ChanceEdges {
         when(10, 1, 10, 1);
         when(0, 100, 10, 0);
         when(10, 100, 10, 0);
-        // 2 to the 9th by that and 511: more than 5 of ten after the ninth night only
+        // 2 to the 9th by that and 99: 8 of ten after the ninth night only
         when(5, 1, 8, 9);
         when(5, 1, 9, -1);
     }
@@ -138,7 +140,8 @@ final class ChanceEdges {
     }
 
     @Edge(promise = 26, says = {"SHARED, what 0: days nobody goes, 1: both go, 2: the van's days, 3: the chapel's (bits).",
-        "SHARED: of seven days the van may go on some (bits), the chapel on some; the van goes n times at most, the chapel m, 0 .. 7: the days of both so that nobody goes on the fewest days, then both on the fewest;"})
+        "SHARED: of seven days the van may go on some (bits), the chapel on some; the van goes n times at most, the chapel m, 0"
+            + " .. 7: the days of both so that nobody goes on the fewest days, then both on the fewest;"})
     static void sharedAtLeastAtMost() {
         shared(0, 0, 0, 0, 7, 0, 0, 0);
         shared(0, 0, 7, 7, 7, 0, 0, 0);
@@ -152,7 +155,8 @@ final class ChanceEdges {
         shared(127, 127, 3, 3, 1, 0, 7, 56);
     }
 
-    @Edge(promise = 26, says = "the van's bits, then the chapel's, the least: how many days nobody goes, both go; the days of the van, of the chapel.")
+    @Edge(promise = 26, says = "the van's bits, then the chapel's, the least: how many days nobody goes, both go; the days of"
+            + " the van, of the chapel.")
     static void sharedByTheLeastBits() {
         shared(127, 127, 7, 7, 0, 0, 0, 127);
         shared(127, 127, 2, 2, 3, 0, 3, 12);
@@ -193,8 +197,10 @@ final class ChanceEdges {
     }
 
     @Edge(promise = 27, says = {"PAIR: with whom volunteer v goes on night t.",
-        "PAIR of n volunteers, 2 .. 12, by turns: on night t, 0 .. 99, r being t, remainder by n less 1 (n even), by n (n odd): two of them go together whose numbers, from 0 on, together are r, remainder likewise;",
-        "of n even the last one goes with him whose number, twice, is r by that remainder (he would go with himself);", "with whom one goes."})
+        "PAIR of n volunteers, 2 .. 12, by turns: on night t, 0 .. 99, r being t, remainder by n less 1 (n even), by n (n odd):"
+            + " two of them go together whose numbers, from 0 on, together are r, remainder likewise;",
+        "of n even the last one goes with him whose number, twice, is r by that remainder (he would go with himself);", "with"
+            + " whom one goes."})
     static void pairsOfAnEvenNumber() {
         pairs(2, 0, 1, 0);
         pairs(2, 99, 1, 0);
@@ -240,7 +246,8 @@ final class ChanceEdges {
     // ---- promise 37
 
     @Edge(promise = 37, says = {"SICK, N, or (under) D.",
-        "SICK: one is ill by q of a hundred, ahead of all; of n signs, 1 .. 9, each is shown by a of ten who are ill, by b of ten who are not, by itself; s of them are shown: how likely he is ill, a fraction in least terms"})
+        "SICK: one is ill by q of a hundred, ahead of all; of n signs, 1 .. 9, each is shown by a of ten who are ill, by b of"
+            + " ten who are not, by itself; s of them are shown: how likely he is ill, a fraction in least terms"})
     static void sickAtLeastAtMost() {
         sick(new int[] {50, 1, 8, 2, 1}, 4, 5);
         sick(new int[] {50, 1, 8, 2, 0}, 1, 5);

@@ -27,7 +27,8 @@ final class EveningEdges {
     // ---- promise 6
 
     @Edge(promise = 6, says = {"Of a TOWN, what 0, 1: HOME's x, y, 2: SOUP, 3: PACE, 4: COLD, 5: TALK, 6: STOPS",
-        "A TOWN has a HOME, x, y, 0 .. 9 each (0, 0 at first);", "SOUP, 0 .. 99 bowls (60);", "PACE, 1 .. 9 minutes for each step (2);",
+        "A TOWN has a HOME, x, y, 0 .. 9 each (0, 0 at first);", "SOUP, 0 .. 99 bowls (60);", "PACE, 1 .. 9 minutes for each"
+            + " step (2);",
         "COLD, 0 .. 99: the minute from which soup is cold (60);", "TALK, 1 .. 30 minutes (9)."})
     static void townAtFirstAtLeastAtMost() {
         SoupNine x = new SoupNine();
@@ -88,7 +89,8 @@ final class EveningEdges {
 
     // ---- promise 7
 
-    @Edge(promise = 7, says = {"How many DEEDS (k NONE, what 0);", "of DEED k, what 0: 0 drive, 1 ladle, 2 wait, 3 talk, 4 return",
+    @Edge(promise = 7, says = {"How many DEEDS (k NONE, what 0);", "of DEED k, what 0: 0 drive, 1 ladle, 2 wait, 3 talk, 4"
+            + " return",
         "1: its number (NONE without).", "An EVENING has DEEDS, at most 40, from 0 on."})
     static void deedsOfEachKind() {
         SoupNine x = Due.told(1, "");
@@ -235,7 +237,8 @@ final class EveningEdges {
     // ---- promise 9
 
     @Edge(promise = 9, says = {"An EVENING of a TOWN begins at minute 0 at HOME, SOUP aboard;",
-        "1: where she is (NONE: at HOME), 2: bowls aboard", "Of a STATE, what 0: the minute", "A STATE is behind the first n DEEDS, n up to END."})
+        "1: where she is (NONE: at HOME), 2: bowls aboard", "Of a STATE, what 0: the minute", "A STATE is behind the first n"
+            + " DEEDS, n up to END."})
     static void howAnEveningBegins() {
         for (int soup : new int[] {0, 99}) {
             SoupNine x = told("even 0 0 9 9;soup " + soup + ";", "drive 0;");
@@ -460,7 +463,8 @@ final class EveningEdges {
     }
 
     @Edge(promise = 28, says = {"DRAWN, n times, what as state().",
-        "DRAWN by a SEED, x; a number below n is drawn: x becomes x * 1103515245 + 12345 (of 32 bits), it is x shifted right by 16 without sign, remainder by n",
+        "DRAWN by a SEED, x; a number below n is drawn: x becomes x * 1103515245 + 12345 (of 32 bits), it is x shifted right by"
+            + " 16 without sign, remainder by n",
         "0, 1, 2: drive, to a STOP, a number below STOPS;"})
     static void theFirstDrives() {
         int drives = 0;
@@ -490,7 +494,8 @@ final class EveningEdges {
         return 0;
     }
 
-    @Edge(promise = 28, says = {"it is x shifted right by 16 without sign, remainder by n", "a number below 8: 0, 1, 2: drive", "3, 4, 5: ladle", "6: talk; 7: return;"})
+    @Edge(promise = 28, says = {"it is x shifted right by 16 without sign, remainder by n", "a number below 8: 0, 1, 2: drive",
+        "3, 4, 5: ladle", "6: talk; 7: return;"})
     static void eachOfTheEight() {
         SoupNine x = Due.told(0, "even 1 0 20 20;pace 1;talk 5;");
         for (int first = 0; first < 8; first++) {

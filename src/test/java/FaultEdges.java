@@ -3,6 +3,13 @@ final class FaultEdges {
     private static final String[] KINDS = {"even", "crowded", "empty", "last"};
     private static final String[] THINGS = {"socks", "gloves", "bags"};
     private static final String NINE_STOPS = "last 0 0 0 0;".repeat(9);
+    // each line of each sort; those that need others have them
+    private static final String[][] LINES = {
+        {"even 0 0 0 0;", "crowded 0 0 0 0;", "empty 0 0 0 0;", "last 0 0 0 0;", "home 0 0;", "soup 1;", "pace 1;", "cold 1;",
+            "talk 1;", "follow 0 1 1;even 0 0 0 0;even 0 0 0 0;"},
+        {"drive 0;", "ladle 1;", "wait 1;", "talk;", "return;"},
+        {"night 0 0;", "night 0 0;asked socks 1;", "night 0 0;asked gloves 1;", "night 0 0;asked bags 1;"},
+        {"shoe 1;", "foot 1 1;", "hide 0 0 0;"}};
 
     private FaultEdges() {
     }
@@ -71,7 +78,8 @@ final class FaultEdges {
 
     // ---- numbers, the least and the greatest
 
-    @Edge(promise = 4, says = {"STOPS, at most 9, from 0 on: a KIND, a place, LEAST, 0 .. 20, MOST, LEAST .. 20: how many may come;",
+    @Edge(promise = 4, says = {"STOPS, at most 9, from 0 on: a KIND, a place, LEAST, 0 .. 20, MOST, LEAST .. 20: how many may"
+            + " come;",
         "(('even' | 'crowded' | 'empty' | 'last') NUMBER NUMBER NUMBER NUMBER", "(even and so on: x, y, LEAST, MOST;",
         "KINDS: 0 EVEN, 1 CROWDED, 2 EMPTY, 3 LAST."})
     static void numbersOfAStop() {
@@ -141,7 +149,8 @@ final class FaultEdges {
         fault(1, "wait;", 1, 4);
     }
 
-    @Edge(promise = 4, says = {"how many were SEEN, 0 .. 99, how many of these AGAIN (had been seen on a night ahead), 0 .. SEEN;",
+    @Edge(promise = 4, says = {"how many were SEEN, 0 .. 99, how many of these AGAIN (had been seen on a night ahead), 0 .."
+            + " SEEN;",
         "('night' NUMBER NUMBER", "(night: SEEN, AGAIN;"})
     static void numbersOfNights() {
         numbers(2, "night ", " 0;", 0, 99);
@@ -150,7 +159,8 @@ final class FaultEdges {
         }
     }
 
-    @Edge(promise = 4, says = {"ASKED of three THINGS, 0 .. 99 each (0 at first): 0 SOCKS, 1 GLOVES, 2 BAGS.", "| 'asked' THING NUMBER) ';'}",
+    @Edge(promise = 4, says = {"ASKED of three THINGS, 0 .. 99 each (0 at first): 0 SOCKS, 1 GLOVES, 2 BAGS.", "| 'asked' THING"
+            + " NUMBER) ';'}",
         "THING: 'socks' | 'gloves' | 'bags'."})
     static void numbersOfAsked() {
         for (String thing : THINGS) {
@@ -178,7 +188,8 @@ final class FaultEdges {
 
     // ---- tokens
 
-    @Edge(promise = 4, says = {"TOKENS, as long as they go, blanks (10, 32) between", "1 the first byte or token with which no text goes on"})
+    @Edge(promise = 4, says = {"TOKENS, as long as they go, blanks (10, 32) between", "1 the first byte or token with which no"
+            + " text goes on"})
     static void aSingleByte() {
         for (int b = 0; b < 256; b++) {
             boolean blank = b == 10 || b == 32;
@@ -194,8 +205,7 @@ final class FaultEdges {
             boolean blank = b == 10 || b == 32;
             int place = b >= 'a' && b <= 'z' ? 0 : b == ';' ? 5 : 4;
             fault(1, "talk" + (char) b + ";", blank ? 0 : 1, blank ? -1 : place);
-            place = b >= 'a' && b <= 'z' || b == ';' ? 0 : b == 10 || b == 32 ? -1 : 0;
-            fault(1, (char) b + "talk;", place < 0 ? 0 : 1, place);
+            fault(1, (char) b + "talk;", blank ? 0 : 1, blank ? -1 : 0);
         }
     }
 
@@ -246,11 +256,16 @@ final class FaultEdges {
     static void wordsAreWhole() {
         for (int sort = 0; sort < 4; sort++) {
             for (String line : LINES[sort]) {
-                for (int i = 0; i < line.length() && Character.isLetter(line.charAt(i)); i++) {
-                    // another letter in one place, one letter too few, one too many
-                    fault(sort, line.substring(0, i) + 'q' + line.substring(i + 1), 1, 0);
-                    fault(sort, line.substring(0, i) + line.substring(i + 1), 1, 0);
-                    fault(sort, line.substring(0, i) + 'q' + line.substring(i), 1, 0);
+                int word = 0;
+                for (int i = 0; i < line.length(); i++) {
+                    if (!Character.isLetter(line.charAt(i))) {
+                        word = i + 1;
+                        continue;
+                    }
+                    // another letter in its place, one letter too few, one too many
+                    fault(sort, line.substring(0, i) + 'q' + line.substring(i + 1), 1, word);
+                    fault(sort, line.substring(0, i) + line.substring(i + 1), 1, word);
+                    fault(sort, line.substring(0, i) + 'q' + line.substring(i), 1, word);
                 }
             }
         }
@@ -265,13 +280,6 @@ final class FaultEdges {
     }
 
     // ---- FAULT 1
-
-    private static final String[][] LINES = {
-        {"even 0 0 0 0;", "crowded 0 0 0 0;", "empty 0 0 0 0;", "last 0 0 0 0;", "home 0 0;", "soup 1;", "pace 1;", "cold 1;",
-            "talk 1;", "follow 0 1 1;even 0 0 0 0;even 0 0 0 0;"},
-        {"drive 0;", "ladle 1;", "wait 1;", "talk;", "return;"},
-        {"night 0 0;", "night 0 0;asked socks 1;", "night 0 0;asked gloves 1;", "night 0 0;asked bags 1;"},
-        {"shoe 1;", "foot 1 1;", "hide 0 0 0;"}};
 
     @Edge(promise = 5, says = {"A TOWN's text: {", "An EVENING's text: {", "A BOOK's text: {", "A LIST's text: {",
         "FAULTS of all, with places (a token's first byte; the end's): 1 the first byte or token with which no text goes on"})
@@ -324,7 +332,8 @@ final class FaultEdges {
 
     // ---- FAULTS 2, 3, 4
 
-    @Edge(promise = 5, says = {"If there is none, the first by place, of one place the least: 2 a NUMBER that can't be (as above;",
+    @Edge(promise = 5, says = {"If there is none, the first by place, of one place the least: 2 a NUMBER that can't be (as"
+            + " above;",
         "FAULTS of all, with places (a token's first byte;"})
     static void theFirstFaultByPlace() {
         fault(0, "pace 0;talk 0;", 2, 5);
@@ -352,7 +361,8 @@ final class FaultEdges {
         fault(0, "follow 1 0 1;even 0 0 0 0;even 0 0 0 99;", 2, 37);
     }
 
-    @Edge(promise = 5, says = "3 a 10th STOP, a 41st DEED, an 11th NIGHT, a 7th SHOE, a 9th FOOT, a 9th HIDE, at its first token;")
+    @Edge(promise = 5, says = "3 a 10th STOP, a 41st DEED, an 11th NIGHT, a 7th SHOE, a 9th FOOT, a 9th HIDE, at its first"
+            + " token;")
     static void oneMoreThanMayBeWithAWrongNumber() {
         fault(0, NINE_STOPS + "even 99 0 0 0;", 3, 117);
         fault(1, "talk;".repeat(40) + "wait 0;", 3, 200);
@@ -393,7 +403,8 @@ final class FaultEdges {
         none(2, "night 0 0;".repeat(10) + "asked socks 1;".repeat(30));
     }
 
-    @Edge(promise = 5, says = {"A LIST has SHOES, at most 6, from 0 on:", "FEET, at most 8, from 0 on:", "HIDES, at most 8, from 0 on:",
+    @Edge(promise = 5, says = {"A LIST has SHOES, at most 6, from 0 on:", "FEET, at most 8, from 0 on:", "HIDES, at most 8, from"
+            + " 0 on:",
         "a 7th SHOE, a 9th FOOT, a 9th HIDE"})
     static void atMostSixShoesEightFeetEightHides() {
         atMost(3, "shoe 1;", 6, 0);
@@ -414,7 +425,8 @@ final class FaultEdges {
 
     // ---- FAULT 5
 
-    @Edge(promise = 5, says = {"If there is none of these, at the end's place, of a TOWN: 5 a STOP that was told of (by follow) and is not there."})
+    @Edge(promise = 5, says = {"If there is none of these, at the end's place, of a TOWN: 5 a STOP that was told of (by follow)"
+            + " and is not there."})
     static void followOfNoSuchStop() {
         fault(0, "follow 0 1 1;", 5, 13);
         fault(0, "follow 0 1 0;even 0 0 0 0;", 5, 26);

@@ -26,7 +26,8 @@ final class ListEdges {
 
     // ---- promise 21
 
-    @Edge(promise = 21, says = {"Of a LIST, what 0: SHOES, 1: FEET, 2: HIDES, 10 + k: size of a SHOE, 20 + k, 30 + k: size, NEED of a FOOT",
+    @Edge(promise = 21, says = {"Of a LIST, what 0: SHOES, 1: FEET, 2: HIDES, 10 + k: size of a SHOE, 20 + k, 30 + k: size, NEED"
+            + " of a FOOT",
         "40 + k, 50 + k, 60 + k: x, y, ODDS of a HIDE.", "A LIST has SHOES, at most 6, from 0 on:", "FEET, at most 8, from 0 on:",
         "HIDES, at most 8, from 0 on:"})
     static void listAtLeastAtMost() {
@@ -84,7 +85,8 @@ final class ListEdges {
 
     // ---- promise 22
 
-    @Edge(promise = 22, says = {"SHOD: the NEED (k NONE), or the SHOE of a FOOT.", "By a LIST: a SHOE fits a FOOT of its size, or of a size 1 less."})
+    @Edge(promise = 22, says = {"SHOD: the NEED (k NONE), or the SHOE of a FOOT.", "By a LIST: a SHOE fits a FOOT of its size,"
+            + " or of a size 1 less."})
     static void aShoeFits() {
         for (int shoe : new int[] {1, 2, 10, 19, 20}) {
             for (int foot = 1; foot <= 20; foot++) {
@@ -149,7 +151,8 @@ final class ListEdges {
     // ---- promise 23
 
     @Edge(promise = 23, says = {"LOOK: the k-th HIDE of the row; k NONE: N, k -2: D of the mean.",
-        "LOOK: one walks from 0, 0 to HIDES one behind the other, a minute a step by columns and rows; he is at one of them, by ODDS: the row by which the mean of minutes until he is found is least",
+        "LOOK: one walks from 0, 0 to HIDES one behind the other, a minute a step by columns and rows; he is at one of them, by"
+            + " ODDS: the row by which the mean of minutes until he is found is least",
         "; that mean, a fraction in least terms."})
     static void lookAtLeastAtMost() {
         look("hide 0 0 1;", 0, 1, 0);
@@ -157,7 +160,7 @@ final class ListEdges {
         look("hide 9 9 20;".repeat(8), 18, 1, 0, 1, 2, 3, 4, 5, 6, 7);
         // 2 minutes by 5, 7 by 1, of 6
         look("hide 2 0 5;hide 0 3 1;hide 5 5 0;", 17, 6, 0, 1, 2);
-        // a step by one of ten, or nine by all others first
+        // 1 by 1, 9 by 9, of 10
         look("hide 1 0 1;hide 9 0 9;", 41, 5, 0, 1);
         // one step one way, two steps the other: by 1 and 4, or 2 and 5
         look("hide 1 0 1;hide 0 2 1;", 5, 2, 0, 1);
@@ -172,7 +175,7 @@ final class ListEdges {
     static void lookTheFirstByNumbers() {
         look("hide 1 1 3;hide 1 1 3;hide 1 1 3;", 2, 1, 0, 1, 2);
         look("hide 3 0 1;hide 0 3 1;", 6, 1, 0, 1);
-        // one step by one, two by two: either way round as long
+        // those without ODDS come as soon as they take no minutes from him, else at the end
         look("hide 0 0 0;hide 0 0 3;hide 1 0 0;", 0, 1, 0, 1, 2);
         look("hide 1 0 0;hide 0 0 3;hide 0 0 0;", 0, 1, 1, 0, 2);
         look("hide 1 0 0;hide 2 0 1;", 2, 1, 0, 1);

@@ -30,12 +30,6 @@ public final class PromisesTest {
         Due.finish("PromisesTest");
     }
 
-    private static SoupNine told(int sort, String text) {
-        SoupNine x = new SoupNine();
-        Due.is("text(" + sort + ", -1) of " + text, Due.tell(x, sort, -1, text), 0);
-        return x;
-    }
-
     private static void constants() {
         Due.is("NONE", SoupNine.NONE, -1);
     }
@@ -145,7 +139,7 @@ public final class PromisesTest {
 
     // what is asked of one in turn with another is what it would be alone
     private static void twoOfASort() {
-        SoupNine x = told(0, TOWN);
+        SoupNine x = Due.told(0, TOWN);
         Due.tell(x, 0, -1, "last 1 1 0 3;");
         Due.tell(x, 3, -1, LIST);
         Due.tell(x, 3, -1, "foot 4 7;shoe 5;hide 0 2 1;");
@@ -267,7 +261,7 @@ public final class PromisesTest {
     }
 
     private static void town() {
-        SoupNine x = told(0, TOWN + "follow 1 2 0;home 3 7;follow 3 0 9;");
+        SoupNine x = Due.told(0, TOWN + "follow 1 2 0;home 3 7;follow 3 0 9;");
         int[] first = {3, 7, 10, 2, 20, 4, 4};
         for (int what = 0; what < 7; what++) {
             Due.is("town(0, " + what + ")", x.town(0, what), first[what]);
@@ -283,7 +277,7 @@ public final class PromisesTest {
         }
         Due.is("town(1, 0)", x.town(1, 0), -2);
         Due.is("town(-1, 0)", x.town(-1, 0), -2);
-        SoupNine y = told(0, "");
+        SoupNine y = Due.told(0, "");
         int[] at = {0, 0, 60, 2, 60, 9, 0};
         for (int what = 0; what < 7; what++) {
             Due.is("town(0, " + what + ") at first", y.town(0, what), at[what]);
@@ -291,7 +285,7 @@ public final class PromisesTest {
     }
 
     private static void deeds() {
-        SoupNine x = told(1, EVENING + "wait 5;");
+        SoupNine x = Due.told(1, EVENING + "wait 5;");
         int[] kinds = {0, 1, 0, 1, 3, 0, 1, 4, 2};
         int[] numbers = {0, 3, 1, 7, -1, 3, 1, -1, 5};
         Due.is("deeds", x.deed(0, -1, 0), 9);
@@ -308,7 +302,7 @@ public final class PromisesTest {
     }
 
     private static void evening() {
-        SoupNine x = told(0, TOWN);
+        SoupNine x = Due.told(0, TOWN);
         Due.is("text", Due.tell(x, 1, -1, EVENING), 0);
         Due.is("till: no bowls are left", x.till(0, 0), 6);
         Due.is("till(1, 0)", x.till(1, 0), -1);
@@ -340,7 +334,7 @@ public final class PromisesTest {
     }
 
     private static void end(String town, String evening, int end) {
-        SoupNine x = told(0, town);
+        SoupNine x = Due.told(0, town);
         Due.is("text", Due.tell(x, 1, -1, evening), 0);
         Due.is("till of " + town + " " + evening, x.till(0, 0), end);
         Due.is("the STATE at END", x.state(0, 0, end, 0) >= 0, true);
@@ -359,7 +353,7 @@ public final class PromisesTest {
         end("even 0 0 9 9;", "drive 1;", 0);
         end("even 0 0 9 9;talk 30;", "drive 0;" + "talk;".repeat(11), 11);
         end("even 9 9 0 0;pace 9;", "drive 0;return;drive 0;", 1);
-        SoupNine x = told(0, "even 0 0 9 9;cold 5;");
+        SoupNine x = Due.told(0, "even 0 0 9 9;cold 5;");
         Due.is("text", Due.tell(x, 1, -1, "drive 0;ladle 1;wait 3;ladle 3;ladle 1;"), 0);
         Due.is("warm at minute 4", x.state(0, 0, 4, 4), 4);
         Due.is("minute", x.state(0, 0, 4, 0), 6);
@@ -377,7 +371,7 @@ public final class PromisesTest {
     }
 
     private static void bowls() {
-        SoupNine x = told(0, "even 0 0 0 2;last 0 0 1 2;");
+        SoupNine x = Due.told(0, "even 0 0 0 2;last 0 0 1 2;");
         // at the LAST stop 1 or 2 come, with one bowl 0 or 1 lack it, and each counts 2
         Due.is("mean N", x.mean(0, 1, 1, false), 1);
         Due.is("mean D", x.mean(0, 1, 1, true), 1);
@@ -409,14 +403,14 @@ public final class PromisesTest {
         Due.is("give", x.give(0, 0, 99, 0), 0);
         Due.is("give", x.give(1, 0, 0, 0), -1);
         Due.is("safe", x.safe(0), 4);
-        Due.is("safe above 99", told(0, "even 0 0 0 20;".repeat(9)).safe(0), 180);
-        Due.is("safe of no STOPS", told(0, "").safe(0), 0);
+        Due.is("safe above 99", Due.told(0, "even 0 0 0 20;".repeat(9)).safe(0), 180);
+        Due.is("safe of no STOPS", Due.told(0, "").safe(0), 0);
         Due.is("tells N", x.tells(0, 2, 1, false), 1);
         Due.is("tells D", x.tells(0, 2, 1, true), 1);
         Due.is("tells N", x.tells(0, 0, 0, false), 3);
         Due.is("tells", x.tells(0, 0, 3, true), -1);
         Due.is("tells", x.tells(0, 100, 0, true), -1);
-        Due.is("tells of no STOPS", told(0, "").tells(0, 0, 0, true), -1);
+        Due.is("tells of no STOPS", Due.told(0, "").tells(0, 0, 0, true), -1);
         // 0 to 2 and 1 to 2: sums 1, 2, 2, 3, 3, 4
         Due.is("lack N", x.lack(0, 2, false), 1);
         Due.is("lack D", x.lack(0, 2, true), 2);
@@ -426,16 +420,16 @@ public final class PromisesTest {
         Due.is("lack D", x.lack(0, 99, true), 1);
         Due.is("lack", x.lack(0, 100, true), -1);
         Due.is("lack", x.lack(0, -1, true), -1);
-        Due.is("lack of no STOPS", told(0, "").lack(0, 0, false), 0);
-        Due.is("lack of no STOPS", told(0, "").lack(0, 0, true), 1);
-        SoupNine y = told(0, "last 0 0 0 20;".repeat(9));
+        Due.is("lack of no STOPS", Due.told(0, "").lack(0, 0, false), 0);
+        Due.is("lack of no STOPS", Due.told(0, "").lack(0, 0, true), 1);
+        SoupNine y = Due.told(0, "last 0 0 0 20;".repeat(9));
         Due.is("mean of all without soup", y.mean(0, 0, 0, false), 180);
         Due.is("lack of no soup D", y.lack(0, 0, true), 794280046581L);
         Due.is("lack of no soup N", y.lack(0, 0, false), 794280046580L);
     }
 
     private static void drives() {
-        SoupNine x = told(0, TOWN);
+        SoupNine x = Due.told(0, TOWN);
         int[] way = {0, 1, 3};
         Due.is("way", x.way(0, -1), 11);
         Due.is("way's minutes", x.way(0, -2), 20);
@@ -460,7 +454,7 @@ public final class PromisesTest {
         Due.is("lost", x.lost(0, -1), -1);
         Due.is("chat", x.chat(0, false), 2);
         Due.is("chat's STOPS", x.chat(0, true), 8);
-        SoupNine y = told(0, "even 1 0 4 4;even 2 0 4 4;even 0 1 4 4;even 9 9 0 0;cold 25;talk 3;");
+        SoupNine y = Due.told(0, "even 1 0 4 4;even 2 0 4 4;even 0 1 4 4;even 9 9 0 0;cold 25;talk 3;");
         // to the third by the two others: 2, 4; 6, 8; 14, 16 minutes; by the third first: 2, 4; 8, 10; 12, 14
         Due.is("way", y.way(0, -1), 12);
         Due.is("way's minutes", y.way(0, -2), 14);
@@ -471,7 +465,7 @@ public final class PromisesTest {
         Due.is("talks", y.talks(0), 4);
         Due.is("chat", y.chat(0, false), 12);
         Due.is("chat's STOPS", y.chat(0, true), 7);
-        SoupNine z = told(0, "even 5 0 1 1;cold 11;");
+        SoupNine z = Due.told(0, "even 5 0 1 1;cold 11;");
         Due.is("talks behind the only one", z.talks(0), 9);
         Due.is("comes at COLD", Due.tell(z, 0, 0, "even 5 0 1 1;cold 10;"), 0);
         Due.is("talks: nobody is WARM", z.talks(0), -1);
@@ -489,13 +483,13 @@ public final class PromisesTest {
     }
 
     private static void moreOfTowns() {
-        SoupNine x = told(0, TOWN);
+        SoupNine x = Due.told(0, TOWN);
         // those in the middle: 3 at 1,0; 6 at 3,0; 1 at 0,4; 2 at 3,4
         Due.is("depot", x.depot(0, false), 3);
         Due.is("depot's minutes", x.depot(0, true), 2 * (3 * 2 + 0 + 7 + 2 * 4));
         Due.is("vans", x.vans(0, false), 28);
         Due.is("vans' STOPS", x.vans(0, true), 0);
-        SoupNine y = told(0, "home 5 5;even 5 7 0 0;even 5 3 0 0;even 7 5 0 0;pace 1;");
+        SoupNine y = Due.told(0, "home 5 5;even 5 7 0 0;even 5 3 0 0;even 7 5 0 0;pace 1;");
         Due.is("vans", y.vans(0, false), 8);
         Due.is("vans' STOPS", y.vans(0, true), 1);
         Due.is("depot: nobody comes", y.depot(0, false), 0);
@@ -518,7 +512,7 @@ public final class PromisesTest {
     }
 
     private static void books() {
-        SoupNine x = told(2, BOOK);
+        SoupNine x = Due.told(2, BOOK);
         Due.is("nights", x.book(0, -1, 0), 3);
         Due.is("nights", x.book(0, -1, 1), -1);
         int[][] rows = {{10, 0, 3, 5, 0}, {12, 4, 7, 0, 0}, {20, 10, 3, 0, 0}};
@@ -571,7 +565,7 @@ public final class PromisesTest {
     }
 
     private static void emptyBook() {
-        SoupNine x = told(2, "");
+        SoupNine x = Due.told(2, "");
         int[] held = {0, -1, -1, -1, -1, -1};
         for (int what = 0; what < 6; what++) {
             Due.is("held of no NIGHTS", x.held(0, what), held[what]);
@@ -592,7 +586,7 @@ public final class PromisesTest {
     }
 
     private static void lists() {
-        SoupNine x = told(3, LIST);
+        SoupNine x = Due.told(3, LIST);
         int[][] rows = {{9, 11}, {11, 10, 9}, {5, 9, 2}, {2, 0, 5}, {0, 3, 5}, {5, 1, 0}};
         int[] many = {2, 3, 3};
         for (int what = 0; what < 3; what++) {
@@ -728,7 +722,7 @@ public final class PromisesTest {
     }
 
     private static void drawnOnes() {
-        SoupNine x = told(0, TOWN);
+        SoupNine x = Due.told(0, TOWN);
         Due.is("drawn, 0 times", x.drawn(0, 5, 0, 2), 10);
         Due.is("drawn", x.drawn(0, 5, 0, 1), -1);
         Due.is("drawn", x.drawn(0, 5, -1, 2), -2);
@@ -747,13 +741,13 @@ public final class PromisesTest {
         Due.is("drawn twice", x.drawn(0, 1, 2, 0), 0);
         Due.is("drawn three times: she drives", x.drawn(0, 1, 3, 1), 3);
         Due.is("drawn three times: minutes", x.drawn(0, 1, 3, 0), 14);
-        SoupNine z = told(0, "");
+        SoupNine z = Due.told(0, "");
         Due.is("drawn without STOPS", z.drawn(0, 1, 60, 0), 0);
         Due.is("drawn without STOPS", z.drawn(0, 1, 60, 10), -2);
     }
 
     private static void images() {
-        SoupNine x = told(0, TOWN);
+        SoupNine x = Due.told(0, TOWN);
         Due.tell(x, 1, -1, EVENING);
         Due.tell(x, 2, -1, BOOK);
         Due.tell(x, 3, -1, LIST);

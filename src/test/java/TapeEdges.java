@@ -65,7 +65,8 @@ final class TapeEdges {
         Due.is("feed behind 7 bytes", x.feed(MIN, MAX, 0, 1, 2), 27);
     }
 
-    @Edge(promise = 2, says = {"twenty bytes come behind it, of each number the highest first", "THE TAPE has at most 600 bytes."})
+    @Edge(promise = 2, says = {"twenty bytes come behind it, of each number the highest first", "THE TAPE has at most 600"
+            + " bytes."})
     static void feedPutsEachByteInItsPlace() {
         for (int place = 0; place < 20; place++) {
             int[] five = {BLANKS, BLANKS, BLANKS, BLANKS, BLANKS};
@@ -158,7 +159,8 @@ final class TapeEdges {
 
     // ---- promise 4
 
-    @Edge(promise = 4, says = {"The tape is taken (and is empty then) as a text of a sort, a further one (at NONE)", ": its number.",
+    @Edge(promise = 4, says = {"The tape is taken (and is empty then) as a text of a sort, a further one (at NONE)", ": its"
+            + " number.",
         "TOWNS, at most 2 (sort 0), EVENINGS, at most 2 (1), BOOKS, at most 2 (2), LISTS, at most 2 (3), from 0 on."})
     static void textOfEachSort() {
         SoupNine x = new SoupNine();
@@ -218,7 +220,8 @@ final class TapeEdges {
         Due.is("a number of none", x.deed(0, 0, 1), -1);
     }
 
-    @Edge(promise = 4, says = {"The tape is taken (and is empty then)", "A TOWN's text: {", "An EVENING's text: {", "A BOOK's text: {",
+    @Edge(promise = 4, says = {"The tape is taken (and is empty then)", "A TOWN's text: {", "An EVENING's text: {", "A BOOK's"
+            + " text: {",
         "A LIST's text: {"})
     static void emptyTextOfEachSort() {
         SoupNine x = new SoupNine();

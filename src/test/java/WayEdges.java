@@ -39,7 +39,8 @@ final class WayEdges {
         way("even 0 0 0 1;even 0 0 0 2;empty 0 0 0 20;crowded 0 0 0 1;", 2, 2, 1, 3);
     }
 
-    @Edge(promise = 13, says = "at each all of these are fed, a minute for two (begun ones, too), who are WARM, if she comes ahead of COLD;")
+    @Edge(promise = 13, says = "at each all of these are fed, a minute for two (begun ones, too), who are WARM, if she comes"
+            + " ahead of COLD;")
     static void wayUpToCold() {
         way("even 5 0 3 3;pace 1;cold 6;", 3, 7, 0);
         way("even 5 0 3 3;pace 1;cold 5;", 0, 0);
@@ -166,7 +167,8 @@ final class WayEdges {
     }
 
     @Edge(promise = 15, says = {"TALKS.",
-        "TALKS: how many times, 9 at most, she may TALK at the first STOP of the row told by WAY, behind its people, so that all are still fed WARM."})
+        "TALKS: how many times, 9 at most, she may TALK at the first STOP of the row told by WAY, behind its people, so that all"
+            + " are still fed WARM."})
     static void talksAtLeastAtMost() {
         talks(PAIR + "cold 3;talk 1;", 0);
         talks(PAIR + "cold 4;talk 1;", 1);
@@ -250,7 +252,8 @@ final class WayEdges {
     }
 
     @Edge(promise = 30, says = {"DEPOT: the place, or (minutes) how many.", "(Of a TOWN.)",
-        "DEPOT: the place (10 times y, and x) from which minutes of driving to all STOPS, each times those who come there in the middle, are fewest together"})
+        "DEPOT: the place (10 times y, and x) from which minutes of driving to all STOPS, each times those who come there in the"
+            + " middle, are fewest together"})
     static void depotAtLeastAtMost() {
         depot("home 9 9;", 0, 0);
         depot("even 5 5 0 1;empty 7 7 0 20;", 0, 0);
@@ -264,6 +267,9 @@ final class WayEdges {
         depot("even 0 0 2 3;even 9 0 3 3;pace 9;", 9, 162);
         depot("even 0 0 3 3;crowded 9 9 0 20;pace 9;", 99, 486);
         depot("crowded 0 0 0 20;crowded 9 9 0 20;pace 9;", 0, 3240);
+        // nine STOPS: five and four of twenty each, 18 steps apart
+        depot("crowded 0 0 0 20;".repeat(5) + "crowded 9 9 0 20;".repeat(4) + "pace 9;", 0, 12960);
+        depot("crowded 0 0 0 20;".repeat(4) + "crowded 9 9 0 20;".repeat(5) + "pace 9;", 99, 12960);
     }
 
     @Edge(promise = 30, says = "the place (10 times y, and x)")
@@ -301,7 +307,8 @@ final class WayEdges {
     }
 
     @Edge(promise = 31, says = {"VANS: the minutes, or (stops) the STOPS.",
-        "VANS: two vans share the STOPS, each drives from HOME to all of its own and home, by the fewest minutes: the least minutes of the one that is home last;"})
+        "VANS: two vans share the STOPS, each drives from HOME to all of its own and home, by the fewest minutes: the least"
+            + " minutes of the one that is home last;"})
     static void vansAtLeastAtMost() {
         vans("", 0, 0);
         vans("home 2 2;even 2 2 0 0;", 0, 0);
@@ -341,7 +348,8 @@ final class WayEdges {
     }
 
     @Edge(promise = 32, says = {"TRAIL: how many, or (again) 1 if he comes to one again, else 0.",
-        "TRAIL of a STOP: how many other STOPS one comes to who goes on from STOP to STOP by FOLLOWERS told (also by 0 of them); whether he comes to one again."})
+        "TRAIL of a STOP: how many other STOPS one comes to who goes on from STOP to STOP by FOLLOWERS told (also by 0 of them);"
+            + " whether he comes to one again."})
     static void trailAtLeastAtMost() {
         trail("", 0, 0, 0);
         trail("", 8, 0, 0);
@@ -366,7 +374,10 @@ final class WayEdges {
     static void trailOfNone() {
         SoupNine x = new SoupNine();
         Due.is("trail(0, 0, false)", x.trail(0, 0, false), -1);
-        Due.tell(x, 0, -1, PAIR + "follow 0 1 1;");
+        Due.tell(x, 0, -1, "");
+        Due.is("trail(0, 0, false) without STOPS", x.trail(0, 0, false), -1);
+        Due.is("trail(0, 0, true) without STOPS", x.trail(0, 0, true), -1);
+        Due.tell(x, 0, 0, PAIR + "follow 0 1 1;");
         for (int stop : new int[] {-1, -2, 2, 3, 9, MIN, MAX}) {
             Due.is("trail(0, " + stop + ", false)", x.trail(0, stop, false), -1);
             Due.is("trail(0, " + stop + ", true)", x.trail(0, stop, true), -1);
@@ -386,7 +397,8 @@ final class WayEdges {
     }
 
     @Edge(promise = 33, says = {"CHAT: how many people, or (stops) the STOPS.",
-        "CHAT: of the STOPS of the row told by WAY some, at each of which she TALKS once behind its people, so that all are still fed WARM"})
+        "CHAT: of the STOPS of the row told by WAY some, at each of which she TALKS once behind its people, so that all are"
+            + " still fed WARM"})
     static void chatUpToCold() {
         chat("", 0, 0);
         chat("even 0 0 1 1;cold 0;", 0, 0);
@@ -403,7 +415,7 @@ final class WayEdges {
 
     @Edge(promise = 33, says = ", and so that as many people as can be come in the middle at these together;")
     static void chatWithAsManyPeopleAsCanBe() {
-        // two at a minute 1, six at 4, one: she comes to the last one at 4, or by one talk at 9
+        // by four minutes she comes to the last one, by one talk at minute 9, by two at 14
         chat("even 0 0 2 2;even 0 0 6 6;even 0 0 1 1;cold 10;talk 5;", 7, 6);
         chat("even 0 0 6 6;even 0 0 2 2;even 0 0 1 1;cold 10;talk 5;", 7, 5);
         chat("even 0 0 6 6;even 0 0 2 2;even 0 0 1 1;cold 15;talk 5;", 9, 7);
